@@ -843,7 +843,7 @@ public final class WovenKeeper {
             }
         }
 
-        private boolean readPart(char part, int step) {
+        private boolean readPart(int part, int step) {
             switch (part) {
                 case 'R':
                     return readNumber(first, step, 0, size - 1);

@@ -18,7 +18,7 @@ public final class ModelTest {
     }
 
     public static void main(String[] args) {
-        int runs = args.length > 0 ? Integer.parseInt(args[0]) : 400;
+        int runs = args.length > 0 ? Integer.parseInt(args[0]) : 200;
         long from = args.length > 1 ? Long.parseLong(args[1]) : 0;
         for (long n = from; n < from + runs && DUE.wrong() < 5; n++) {
             new ModelTest(n, n % 4 == 0 ? 25 : 9).go(n);
