@@ -1,11 +1,17 @@
 /** Counts answers that are not as due, and tells them. */
 final class Due {
     private final String name;
+    private String sentence = "";
     private int asked;
     private int wrong;
 
     Due(String name) {
         this.name = name;
+    }
+
+    /** What is asked from here on stands for this sentence of the document. */
+    void about(String sentence) {
+        this.sentence = sentence;
     }
 
     void is(String call, long got, long want) {
@@ -29,7 +35,7 @@ final class Due {
     private void tell(String what) {
         wrong++;
         if (wrong <= 40) {
-            System.out.println(name + ": " + what);
+            System.out.println(name + ": " + what + (sentence.isEmpty() ? "" : " (" + sentence + ")"));
         }
     }
 
